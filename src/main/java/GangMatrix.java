@@ -65,7 +65,11 @@ public final class GangMatrix {
         if (n < 1 || n > MOST_QUANTA) {
             return NONE;
         }
-        return runQuanta(board, n);
+        int done = 0;
+        for (int i = 0; i < n; i++) {
+            done += board.runOne();
+        }
+        return done;
     }
 
     public boolean down(int column) {
@@ -218,9 +222,11 @@ public final class GangMatrix {
             return NONE;
         }
         thought.copyFrom(board);
-        int done = runQuanta(thought, n);
+        for (int i = 0; i < n; i++) {
+            thought.runOne();
+        }
         switch (what) {
-            case 0: return done;
+            case 0: return thought.jobs.inState(Jobs.DONE) - board.jobs.inState(Jobs.DONE);
             case 1: return tallied(Board.USED);
             case 2: return tallied(Board.STILL) + tallied(Board.INSIDE) + tallied(Board.OPEN);
             case 3: return thought.slots.rows;
@@ -292,14 +298,6 @@ public final class GangMatrix {
     private boolean wentOn(boolean done) {
         if (done) {
             board.goOn();
-        }
-        return done;
-    }
-
-    private static int runQuanta(Board on, int n) {
-        int done = 0;
-        for (int i = 0; i < n; i++) {
-            done += on.runOne();
         }
         return done;
     }
@@ -438,6 +436,8 @@ public final class GangMatrix {
     /** All jobs that came, by number, and those waiting, as they came to wait. */
     private static final class Jobs {
         static final int ALL = 60;
+        /** Above the greatest number: keys by which jobs are sorted end with the number. */
+        static final int NUMBERS = 64;
         static final int WHATS = 19;
         static final int SIZE = 0;
         static final int WORK = 1;
@@ -673,7 +673,7 @@ public final class GangMatrix {
         }
     }
 
-    /** The rows of the matrix. A slot's jobs share no column, so its busy columns are all it needs of them. */
+    /** The rows of the matrix. No two jobs of a slot share a column, so loads follow from busy columns. */
     private static final class Slots {
         static final int ALL = 8;
         final long[] pass = new long[ALL];
@@ -688,7 +688,9 @@ public final class GangMatrix {
         long leastPass() {
             long least = rows > 0 ? pass[0] : 0;
             for (int s = 1; s < rows; s++) {
-                least = Math.min(least, pass[s]);
+                if (pass[s] < least) {
+                    least = pass[s];
+                }
             }
             return least;
         }
@@ -884,8 +886,6 @@ public final class GangMatrix {
         private static final int TURN = 1000000;
         /** Above the greatest sum of loads that a block can have. */
         private static final int LOADS = 1000;
-        /** Above the greatest number of a job: keys end with the number. */
-        private static final int NUMBERS = 64;
 
         final int[] told = {16, 4, 0, 0, 0, 10, 1, 0, 1, 1};
         final int[] tally = new int[11];
@@ -999,15 +999,12 @@ public final class GangMatrix {
             int best = NONE;
             for (int c = 0; c < told[P]; c += width) {
                 if ((starts >>> c & 1) == 1) {
-                    int ranked = fitRank(free, c, width) * Blocks.COLUMNS + c;
+                    int rank = told[FIT] == 1 ? roomOf(free, c, width) : loadRank(c, width);
+                    int ranked = rank * Blocks.COLUMNS + c;
                     best = best == NONE ? ranked : Math.min(best, ranked);
                 }
             }
             return best;
-        }
-
-        private int fitRank(int free, int column, int width) {
-            return told[FIT] == 1 ? roomOf(free, column, width) : loadRank(column, width);
         }
 
         private int roomOf(int free, int column, int width) {
@@ -1057,18 +1054,15 @@ public final class GangMatrix {
             while (first < waiting && tryPlace(order[first], LOG_PLACED)) {
                 first++;
             }
-            if (first < waiting) {
-                backfill(order[first], first + 1, waiting);
-            }
-        }
-
-        private void backfill(int first, int from, int waiting) {
-            int to = Math.min(waiting, from + told[BACKFILL]);
-            for (int i = from; i < to && jobs.row[Jobs.PASSED][first] < told[PATIENCE]; i++) {
-                if (tryPlace(order[i], LOG_BACKFILLED)) {
-                    jobs.row[Jobs.PASSED][first]++;
+            int behind = first + 1;
+            int end = Math.min(waiting, behind + told[BACKFILL]);
+            int[] passed = jobs.row[Jobs.PASSED];
+            while (behind < end && passed[order[first]] < told[PATIENCE]) {
+                if (tryPlace(order[behind], LOG_BACKFILLED)) {
+                    passed[order[first]]++;
                     tally[BACKFILLED]++;
                 }
+                behind++;
             }
         }
 
@@ -1279,7 +1273,7 @@ public final class GangMatrix {
             int placed = sortForRepack();
             slots.rows = 0;
             for (int i = 0; i < placed; i++) {
-                int j = key[i] % NUMBERS;
+                int j = key[i] % Jobs.NUMBERS;
                 settle(j, slots.firstClear(jobs.block(j)), jobs.row[Jobs.COLUMN][j]);
             }
             slots.startAllAt(start);
@@ -1291,7 +1285,7 @@ public final class GangMatrix {
                 if (jobs.isPlaced(j)) {
                     int narrow = Blocks.COLUMNS - jobs.row[Jobs.WIDTH][j];
                     int spot = Blocks.spot(jobs.row[Jobs.SLOT][j], jobs.row[Jobs.COLUMN][j]);
-                    key[found] = (narrow * Slots.ALL * Blocks.COLUMNS + spot) * NUMBERS + j;
+                    key[found] = (narrow * Slots.ALL * Blocks.COLUMNS + spot) * Jobs.NUMBERS + j;
                     found++;
                 }
             }
@@ -1311,7 +1305,7 @@ public final class GangMatrix {
             }
         }
 
-        /** Goes from a job to those held by it and back up by AFTER, so no call stands open for each level. */
+        /** Goes down to those held and back up by AFTER, so that no call stands open for each level. */
         int killWithHeld(int job) {
             int killed = 1;
             int at = job;
@@ -1381,7 +1375,6 @@ public final class GangMatrix {
 
     /** What moving, laying anew and urging would bring, and doing it. */
     private static final class Plans {
-        private static final int NUMBERS = 64;
         private static final int MOST_FOR_TWO = 8;
         private final Board board;
         private final Jobs jobs;
@@ -1525,7 +1518,7 @@ public final class GangMatrix {
                 load[c] = 0;
             }
             for (int i = 0; i < placed; i++) {
-                int j = key[i] % NUMBERS;
+                int j = key[i] % Jobs.NUMBERS;
                 laid[j] = layColumn(j);
                 addLoad(laid[j], jobs.row[Jobs.WIDTH][j], 1);
             }
@@ -1536,7 +1529,7 @@ public final class GangMatrix {
             int found = 0;
             for (int j = 0; j < jobs.came; j++) {
                 if (jobs.isPlaced(j)) {
-                    key[found] = (Blocks.COLUMNS - jobs.row[Jobs.WIDTH][j]) * NUMBERS + j;
+                    key[found] = (Blocks.COLUMNS - jobs.row[Jobs.WIDTH][j]) * Jobs.NUMBERS + j;
                     found++;
                 }
             }
