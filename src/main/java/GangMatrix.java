@@ -997,7 +997,7 @@ public final class GangMatrix {
                 return Blocks.lowest(starts);
             }
             int best = NONE;
-            for (int c = 0; c < told[P]; c += width) {
+            for (int c = 0; c < told[P]; c++) {
                 if ((starts >>> c & 1) == 1) {
                     int rank = told[FIT] == 1 ? roomOf(free, c, width) : loadRank(c, width);
                     int ranked = rank * Blocks.COLUMNS + c;
@@ -1009,9 +1009,9 @@ public final class GangMatrix {
 
         private int roomOf(int free, int column, int width) {
             int room = width;
-            for (int wide = width * 2; wide <= told[P]; wide *= 2) {
+            for (int wide = 2; wide <= Blocks.COLUMNS; wide *= 2) {
                 int around = Blocks.bits(column / wide * wide, wide);
-                if ((around & ~free) == 0) {
+                if (wide > width && (around & ~free) == 0) {
                     room = wide;
                 }
             }
@@ -1235,14 +1235,14 @@ public final class GangMatrix {
 
         /** How many slots go by it. */
         int unifyAll() {
-            int before = slots.rows;
-            while (slots.rows > 0 && unifyFirst()) {
-                tally[UNIFIED]++;
+            int gone = 0;
+            while (gone < Slots.ALL && unifyFirst()) {
+                gone++;
             }
-            return before - slots.rows;
+            tally[UNIFIED] += gone;
+            return gone;
         }
 
-        /** Each time one slot less is left, so it ends. */
         private boolean unifyFirst() {
             for (int first = 0; first < slots.rows; first++) {
                 for (int behind = first + 1; behind < slots.rows; behind++) {

@@ -69,6 +69,9 @@ public final class ModelTest {
             int p = 4 << in(0, 3);
             due("set(0, " + p + ")", of(x.set(0, p)), of(n.set(0, p)));
         }
+        if (in(0, 1) == 0) {
+            due("set(9, 0)", of(x.set(9, 0)), of(n.set(9, 0)));
+        }
         for (int k = in(0, 6); k > 0; k--) set();
         for (int i = 0; i < 150 && !wrong; i++) {
             change();
