@@ -970,6 +970,9 @@ public final class GangMatrix {
 
         /** The spot for a width by FIT; NONE if it can't be. */
         int spotFor(int width) {
+            if (!canStand(width)) {
+                return NONE;
+            }
             if (told[FIT] == 2) {
                 slots.loadsInto(load);
             }
@@ -988,6 +991,17 @@ public final class GangMatrix {
             }
             int start = rankedStart(ups(), width);
             return start == NONE ? NONE : Blocks.spot(slots.rows, start % Blocks.COLUMNS);
+        }
+
+        /** Most of those that wait can't be placed: this tells it before anything is ranked. */
+        private boolean canStand(int width) {
+            int up = ups();
+            for (int s = 0; s < slots.rows; s++) {
+                if (Blocks.starts(up & ~slots.busy[s], width) != 0) {
+                    return true;
+                }
+            }
+            return slots.rows < told[MOST] && Blocks.starts(up, width) != 0;
         }
 
         /** Of the blocks in free columns the first of those that FIT ranks least, as rank * 32 + column. */
