@@ -22,6 +22,7 @@ public final class PromisesTest {
         jobsComeLater();
         killing();
         turnsByShares();
+        longRuns();
         runningAndSaving();
         lending();
         columnsBySorts();
@@ -371,6 +372,24 @@ public final class PromisesTest {
         job(x, 2, 4, 5, 2);
         due("a new SLOT has the least PASS", x.slot(2, 2), 0);
         due("TURNS", x.slot(2, 3), 0);
+    }
+
+    /** PASS grows by a million a turn: in the longest runs it is far above what an int holds. */
+    private static void longRuns() {
+        promise = 7;
+        GangMatrix x = with(4);
+        job(x, 0, 4, 9999, 0);
+        job(x, 1, 4, 9999, 1);
+        for (int i = 1; i <= 100; i++) {
+            due("quantum", x.quantum(100), 0);
+            due("TURNS of 0", x.slot(0, 3), 50 * i);
+            due("TURNS of 1", x.slot(1, 3), 50 * i);
+        }
+        due("LEFT", x.of(0, LEFT), 4999);
+        due("USED", x.user(1, 1), 20000);
+        job(x, 2, 4, 9, 2);
+        due("the least PASS", x.slot(2, 2), 0);
+        due("when", x.when(2), 10000 + 27);
     }
 
     private static void runningAndSaving() {
