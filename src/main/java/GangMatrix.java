@@ -489,7 +489,7 @@ public final class GangMatrix {
             return after == NONE || has(after) && row[STATE][after] != KILLED;
         }
 
-        int add(int size, int work, int user, int time) {
+        int add(int size, int work, int user, int after, int time) {
             int j = came;
             for (int what = 0; what < WHATS; what++) {
                 row[what][j] = 0;
@@ -497,7 +497,7 @@ public final class GangMatrix {
             row[SIZE][j] = size;
             row[WORK][j] = work;
             row[USER][j] = user;
-            row[AFTER][j] = NONE;
+            row[AFTER][j] = after;
             row[LEFT][j] = work;
             row[KEPT][j] = work;
             row[SLOT][j] = NONE;
@@ -739,10 +739,9 @@ public final class GangMatrix {
             turns[first] += turns[behind];
         }
 
-        void startAllAt(long start) {
+        void passAllAt(long start) {
             for (int s = 0; s < rows; s++) {
                 pass[s] = start;
-                turns[s] = 0;
             }
         }
 
@@ -959,8 +958,7 @@ public final class GangMatrix {
         }
 
         int come(int size, int work, int user, int after) {
-            int j = jobs.add(size, work, user, time);
-            jobs.row[Jobs.AFTER][j] = after;
+            int j = jobs.add(size, work, user, after, time);
             if (after == NONE || jobs.state(after) == Jobs.DONE) {
                 jobs.toLine(j);
             }
@@ -1290,7 +1288,7 @@ public final class GangMatrix {
                 int j = key[i] % Jobs.NUMBERS;
                 settle(j, slots.firstClear(jobs.block(j)), jobs.row[Jobs.COLUMN][j]);
             }
-            slots.startAllAt(start);
+            slots.passAllAt(start);
         }
 
         private int sortForRepack() {

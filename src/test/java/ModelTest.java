@@ -82,7 +82,7 @@ public final class ModelTest {
     }
 
     private void set() {
-        int what = in(0, 9);
+        int what = in(0, 4) == 0 ? 1 : in(0, 9);
         int[] high = {33, 8, 2, 1, 9, 99, 9, 99, 1, 1};
         int v = in(0, 15) == 0 ? in(-1, 101) : what == 5 || what == 7 ? in(0, 6) : in(0, high[what]);
         due("set(" + what + ", " + v + ")", of(x.set(what, v)), of(n.set(what, v)));

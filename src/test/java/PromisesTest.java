@@ -613,18 +613,27 @@ public final class PromisesTest {
         due("one slot", x.look(13), 1);
         at(x, 4, 0, 0);
 
-        // more than once, and it goes on behind it
+        // it goes on behind it
         x = with(4);
-        x.set(STOP, 0);
-        job(x, 0, 4, 9, 0);
-        for (int n = 1; n <= 3; n++) job(x, n, 1, 9, 0);
-        yes("a new slot", x.move(2, 0));
-        yes("a new slot", x.move(3, 0));
-        due("four slots", x.look(13), 4);
-        yes("move", x.move(2, 1));
-        at(x, 2, 1, 1);
+        x.set(MOST, 2);
+        for (int n = 0; n < 4; n++) job(x, n, 2, 9, 0);
         job(x, 4, 4, 9, 0);
-        due("it has one", x.of(4, SLOT), 3);
+        x.kill(1);
+        x.kill(2);
+        due("WAITING", x.of(4, STATE), WAITING);
+        due("one goes", x.unify(), 1);
+        at(x, 3, 0, 2);
+        at(x, 4, 1, 0);
+        // three slots, of each one job: all are one then
+        x = with(8);
+        for (int n = 0; n < 12; n++) job(x, n, 2, 9, 0);
+        for (int n = 0; n < 12; n++) if (n != 0 && n != 5 && n != 10) due("kill", x.kill(n), 1);
+        due("three", x.look(13), 3);
+        due("two go", x.unify(), 2);
+        line(x, 1, 0, 7, NONE, 0, 1);
+        line(x, 0, 0, 7, NONE, 0, 1);
+        at(x, 10, 0, 4);
+        due("UNIFIED", x.count(7), 2);
     }
 
     private static void repacking() {
@@ -695,6 +704,19 @@ public final class PromisesTest {
         no("DOWN", x.move(0, 4));
         no("DOWN", x.move(1, 4));
         at(x, 1, 0, 6);
+
+        // three slots, of which two may be: its own goes, but a new one can't be
+        x = with(4);
+        job(x, 0, 4, 9, 0);
+        job(x, 1, 4, 9, 0);
+        job(x, 2, 2, 9, 0);
+        x.set(MOST, 2);
+        no("for MOST", x.move(2, 2));
+        at(x, 2, 2, 0);
+        due("three slots", x.look(13), 3);
+        x.set(MOST, 3);
+        yes("its own goes, a new one comes", x.move(2, 2));
+        at(x, 2, 2, 2);
     }
 
     private static void weighingAndMigrating() {
