@@ -1,3 +1,5 @@
+import java.io.PrintWriter;
+import java.io.StringWriter;
 import java.lang.management.ManagementFactory;
 import java.lang.reflect.Constructor;
 import java.lang.reflect.Field;
@@ -7,10 +9,13 @@ import java.nio.file.Files;
 import java.nio.file.Path;
 import java.util.ArrayList;
 import java.util.List;
+import java.util.Map;
 import java.util.Set;
+import java.util.TreeMap;
 import java.util.TreeSet;
 import java.util.regex.Matcher;
 import java.util.regex.Pattern;
+import java.util.spi.ToolProvider;
 
 /** What LANGUAGE.md asks and a program can see: the face, words that are not used, room that calls take. */
 public final class LanguageTest {
@@ -28,6 +33,7 @@ public final class LanguageTest {
         face();
         namesAndFields();
         source(Path.of(args.length > 0 ? args[0] : ".", "src/main/java/GangMatrix.java"));
+        depth();
         room();
         oddArguments();
         System.out.println("language: " + wrong + " wrong");
@@ -105,6 +111,41 @@ public final class LanguageTest {
         }
     }
 
+    /** Which method calls which, read from what javap prints: no chain of calls is over eight long. */
+    private static void depth() throws Exception {
+        Path home = Path.of(GangMatrix.class.getProtectionDomain().getCodeSource().getLocation().toURI());
+        Pattern head = Pattern.compile("^  \\S.*?([\\w$]+)\\(.*\\);$");
+        Pattern call = Pattern.compile("// (?:Interface)?Method (?:([\\w/$]+)\\.)?\"?([\\w<>]+)\"?:");
+        Map<String, Set<String>> calls = new TreeMap<>();
+        List<Class<?>> all = new ArrayList<>(List.of(GangMatrix.class.getDeclaredClasses()));
+        all.add(GangMatrix.class);
+        for (Class<?> c : all) {
+            StringWriter text = new StringWriter();
+            PrintWriter out = new PrintWriter(text);
+            ToolProvider.findFirst("javap").get().run(out, out, "-p", "-c", home.resolve(c.getName() + ".class").toString());
+            String from = "";
+            for (String line : text.toString().split("\\R")) {
+                Matcher m = head.matcher(line);
+                if (m.find()) from = c.getName() + "." + (m.group(1).equals(c.getName()) ? "<init>" : m.group(1));
+                m = call.matcher(line);
+                if (!m.find()) continue;
+                String owner = m.group(1) == null ? c.getName() : m.group(1);
+                calls.computeIfAbsent(from, k -> new TreeSet<>()).add(owner + "." + m.group(2));
+            }
+        }
+        check(calls.size() > 60, "javap told only " + calls.size() + " methods that call");
+        int deepest = 0;
+        for (String from : calls.keySet()) deepest = Math.max(deepest, deep(calls, from, 1));
+        check(deepest <= 8, "calls go " + deepest + " deep");
+        check(deepest > 3, "javap told of no deeper calls than " + deepest);
+    }
+
+    private static int deep(Map<String, Set<String>> calls, String from, int at) {
+        int most = at;
+        if (at < 20) for (String to : calls.getOrDefault(from, Set.of())) most = Math.max(most, deep(calls, to, at + 1));
+        return most;
+    }
+
     /** All calls of a run live in one room, so no call may make anything. */
     private static void room() {
         com.sun.management.ThreadMXBean bean =
@@ -117,7 +158,7 @@ public final class LanguageTest {
         busy(x);
         long end = bean.getThreadAllocatedBytes(id);
         check(made - start < 65536, "a new object takes " + (made - start) + " bytes");
-        check(end - made < 4096, "the calls take " + (end - made) + " bytes");
+        check(end - made < 64, "the calls take " + (end - made) + " bytes");
     }
 
     private static void busy(GangMatrix x) {
