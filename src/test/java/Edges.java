@@ -33,8 +33,17 @@ final class Edges {
         sentence = text;
     }
 
+    static Set<String> sentences() {
+        return sentences;
+    }
+
     static Set<String> broken() {
         return broken;
+    }
+
+    /** The test of a sentence threw: it does not hold. */
+    static void threw() {
+        broken.add(sentence);
     }
 
     static void end(String name) {

@@ -414,6 +414,15 @@ public final class EdgesOfChangesTest {
         // three in column 5
         weighed(x, 1, 0, 1);
         weighed(x, 0, 0, 1);
+        x = Edges.with(4);
+        x.set(Edges.STOP, 0);
+        int[] column = {0, 0, 0, 1, 3};
+        for (int j = 0; j < 5; j++) {
+            Edges.job(x, j, 1, 9, 0);
+            if (x.of(j, Edges.COLUMN) != column[j]) Edges.yes("move", x.move(j, column[j]));
+        }
+        // three in column 0 in any case, so two in column 1 are as good as one in column 2
+        weighed(x, 4, 1, 0);
     }
 
     private static void weighedWithoutBest() {
@@ -938,6 +947,8 @@ public final class EdgesOfChangesTest {
         thinned(x, 2, 2, 2);
         Edges.yes("move", x.move(2, 0));
         thinned(x, 3, 2, 2);
+        Edges.yes("up", x.up(2));
+        thinned(x, 3, 2, 1);
     }
 
     private static void thinNoDown() {

@@ -604,21 +604,23 @@ public final class EdgesOfMatrixTest {
 
     private static void passOfANewSlot() {
         Edges.sentence("PASS (a new one: the least PASS of those there are), TURNS (0 at first)");
-        GangMatrix x = Edges.with(4);
-        x.share(1, 4);
-        Edges.job(x, 0, 4, 99, 0);
-        Edges.job(x, 1, 4, 99, 1);
-        x.quantum(2);
-        // 1000000 and 250000
-        Edges.job(x, 2, 4, 99, 0);
-        Edges.due("the least", x.slot(2, 2), 0);
-        Edges.due("less than the first by", x.slot(0, 2), 750000);
-        Edges.due("as the least", x.slot(1, 2), 0);
-        Edges.due("TURNS", x.slot(2, 3), 0);
-        Edges.due("killed", x.kill(0) + x.kill(1) + x.kill(2), 3);
-        Edges.job(x, 3, 4, 99, 0);
-        Edges.due("the only one", x.slot(0, 2), 0);
-        Edges.due("TURNS", x.slot(0, 3), 0);
+        for (int least = 0; least <= 1; least++) {
+            GangMatrix x = Edges.with(4);
+            x.share(least, 4);
+            Edges.job(x, 0, 4, 99, 0);
+            Edges.job(x, 1, 4, 99, 1);
+            x.quantum(2);
+            // 250000 and 1000000
+            Edges.job(x, 2, 4, 99, 2);
+            Edges.due("the least", x.slot(2, 2), 0);
+            Edges.due("less than the other by", x.slot(1 - least, 2), 750000);
+            Edges.due("as the least", x.slot(least, 2), 0);
+            Edges.due("TURNS", x.slot(2, 3), 0);
+            Edges.due("killed", x.kill(0) + x.kill(1) + x.kill(2), 3);
+            Edges.job(x, 3, 4, 99, 0);
+            Edges.due("the only one", x.slot(0, 2), 0);
+            Edges.due("TURNS", x.slot(0, 3), 0);
+        }
     }
 
     private static void weights() {

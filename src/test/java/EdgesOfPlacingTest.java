@@ -155,6 +155,12 @@ public final class EdgesOfPlacingTest {
         spot(x, 1, 0, 1);
         spot(x, 2, 0, 2);
         spot(x, 4, 1, 4);
+        x = Edges.with(8);
+        for (int j = 0; j < 4; j++) Edges.job(x, j, 4, 9, 0);
+        Edges.due("killed", x.kill(1) + x.kill(2), 2);
+        // slot 0: columns 4 to 7 free; slot 1: columns 0 to 3
+        spot(x, 1, 0, 4);
+        spot(x, 4, 0, 4);
     }
 
     private static void spot(GangMatrix x, int size, int slot, int column) {
@@ -183,6 +189,14 @@ public final class EdgesOfPlacingTest {
         // slot 0: column 7 alone
         spot(x, 1, 0, 7);
         spot(x, 2, 1, 6);
+        x = Edges.with(8);
+        x.set(Edges.FIT, 1);
+        int[] size = {4, 1, 1, 2};
+        for (int j = 0; j < 4; j++) Edges.job(x, j, size[j], 9, 0);
+        Edges.due("killed", x.kill(0) + x.kill(2), 2);
+        // columns 0 to 3 and column 5
+        spot(x, 1, 0, 5);
+        spot(x, 2, 0, 0);
     }
 
     private static void roomOfANewSlot() {

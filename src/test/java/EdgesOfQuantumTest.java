@@ -466,6 +466,16 @@ public final class EdgesOfQuantumTest {
         Edges.line(x, 0, 1, 1, 4, 1, 0);
         Edges.at(x, 3, 0, 2);
         Edges.due("UNIFIED", x.count(7), 1);
+        x = Edges.with(4);
+        x.set(Edges.MOST, 2);
+        for (int j = 0; j < 4; j++) Edges.job(x, j, 2, j == 1 ? 1 : 9, 0);
+        Edges.held(x, 4, 2, 9, 1);
+        Edges.due("killed", x.kill(2), 1);
+        x.set(Edges.AUTO, 1);
+        Edges.due("done", x.quantum(1), 1);
+        // 4 finds 3 in the place that 1 had
+        Edges.at(x, 3, 0, 2);
+        Edges.at(x, 4, 1, 0);
     }
 
     private static void goesOnWithoutAuto() {
@@ -502,6 +512,12 @@ public final class EdgesOfQuantumTest {
         Edges.counted(x, 0, 0, 0, 15, 1);
         Edges.queue(x, 0);
         Edges.due("it did not run", x.of(0, Edges.LEFT), 9);
+        x = Edges.with(4);
+        Edges.job(x, 0, 3, 1, 0);
+        Edges.due("done", x.quantum(2), 1);
+        Edges.went(x, 1, 0, 1, 0, 3);
+        Edges.went(x, 0, Edges.NONE, 0, 0, 0);
+        Edges.counted(x, 3, 0, 1, 4, 0);
     }
 
     private static void withoutAColumn() {

@@ -1,6 +1,7 @@
 import java.io.ByteArrayOutputStream;
 import java.io.OutputStream;
 import java.io.PrintStream;
+import java.io.Writer;
 import java.net.URI;
 import java.nio.file.Files;
 import java.nio.file.Path;
@@ -9,12 +10,13 @@ import java.util.HashMap;
 import java.util.List;
 import java.util.Map;
 import java.util.Set;
-import java.util.TreeMap;
 import java.util.TreeSet;
+import java.util.concurrent.ExecutionException;
 import java.util.concurrent.ExecutorService;
 import java.util.concurrent.Executors;
 import java.util.concurrent.Future;
 import java.util.concurrent.TimeUnit;
+import java.util.concurrent.TimeoutException;
 import java.util.regex.Matcher;
 import java.util.regex.Pattern;
 import javax.tools.FileObject;
@@ -27,8 +29,9 @@ import javax.tools.StandardJavaFileManager;
 import javax.tools.ToolProvider;
 
 /**
- * A tool to be run by hand, no test: it breaks the class in one place at a time and tells which breaks no test of
- * edges sees, and which sentences no break was seen by. README.md says how it is run.
+ * A tool to be run by hand, no test: it breaks the class and looks which tests of edges see it. First the breaks of
+ * breaks.txt, each of which the test of its sentence must see; then (with "places") one place of the class at a time:
+ * it tells which of these breaks nobody sees. README.md says how it is run.
  */
 public final class Mutants {
     private static final String[] TESTS = {"EdgesOfMatrixTest", "EdgesOfPlacingTest", "EdgesOfQuantumTest",
@@ -41,29 +44,69 @@ public final class Mutants {
         {" & ~", " & "}, {" >>> ", " << "}, {"if (", "if (true || "}, {"if (", "if (false && "}};
     private static final Pattern NUMBER = Pattern.compile("(?<![\\w.])\\d+(?!\\w)");
 
-    private record Mutant(int line, String before, String after) {
+    /** A broken class; the sentence that must see it, if it is for one. */
+    private record Mutant(String sentence, String told, String source) {
     }
 
-    private record Seen(Mutant mutant, Set<String> by, String how) {
+    private record Seen(Mutant mutant, Set<String> by, boolean compiled) {
     }
 
+    private static final Set<String> sentences = new TreeSet<>();
     private static Map<String, byte[]> testClasses;
+    private static String whole;
     private static String[] lines;
 
     public static void main(String[] args) throws Exception {
         Path root = Path.of(args.length > 0 ? args[0] : ".");
-        lines = Files.readString(root.resolve("src/main/java/GangMatrix.java")).split("\n", -1);
+        whole = Files.readString(root.resolve("src/main/java/GangMatrix.java"));
+        lines = whole.split("\n", -1);
         Map<String, String> sources = new HashMap<>();
-        sources.put("GangMatrix", String.join("\n", lines));
+        sources.put("GangMatrix", whole);
         sources.put("Edges", Files.readString(root.resolve("src/test/java/Edges.java")));
         for (String t : TESTS) sources.put(t, Files.readString(root.resolve("src/test/java/" + t + ".java")));
-        testClasses = compile(sources, null);
+        testClasses = compile(sources);
         testClasses.keySet().removeIf(name -> name.equals("GangMatrix") || name.startsWith("GangMatrix$"));
         PrintStream out = System.out;
         System.setOut(new PrintStream(OutputStream.nullOutputStream()));
-        List<Seen> seen = tryAll(mutants(), out);
-        report(seen, out);
+        out.println("unbroken: " + tryOne(new Mutant("", "", whole)).by.size() + " sentences do not hold");
+        reportBreaks(tryAll(breaks(Files.readAllLines(root.resolve("src/test/breaks.txt")), out), out), out);
+        if (args.length > 1 && args[1].equals("places")) reportPlaces(tryAll(mutants(), out), out);
         System.exit(0);
+    }
+
+    private static List<Mutant> breaks(List<String> text, PrintStream out) {
+        List<Mutant> all = new ArrayList<>();
+        String sentence = null, source = null, old = null, told = "";
+        for (String line : text) {
+            if (line.startsWith("@ ")) {
+                sentence = line.substring(2);
+                source = whole;
+                told = "";
+            } else if (line.startsWith("- ") && source != null) {
+                old = line.substring(2);
+            } else if (line.startsWith("+ ") && source != null) {
+                source = broken(source, old, line.substring(2), out);
+                told += old + " -> " + line.substring(2) + " ";
+            } else if (line.isEmpty() && source != null) {
+                all.add(new Mutant(sentence, told, source));
+                source = null;
+            }
+        }
+        if (source != null) all.add(new Mutant(sentence, told, source));
+        return all;
+    }
+
+    private static String broken(String source, String old, String by, PrintStream out) {
+        int cut = old.indexOf(" >> ");
+        String behind = cut < 0 ? old : old.substring(0, cut);
+        String what = cut < 0 ? old : old.substring(cut + 4);
+        int from = source.indexOf(behind);
+        int at = from < 0 ? -1 : source.indexOf(what, cut < 0 ? from : from + behind.length());
+        if (at < 0 || source.indexOf(behind, from + 1) >= 0) {
+            out.println("stands not there just once: " + old);
+            return source;
+        }
+        return source.substring(0, at) + by + source.substring(at + what.length());
     }
 
     private static List<Mutant> mutants() {
@@ -88,7 +131,7 @@ public final class Mutants {
                     rest = (swap[1].contains("true") ? "" : "(") + rest.substring(0, rest.length() - 3)
                         + (swap[1].contains("true") ? "" : ")") + ") {";
                 }
-                all.add(new Mutant(i, line, line.substring(0, at) + swap[1] + rest));
+                place(all, i, line.substring(0, at) + swap[1] + rest);
             }
         }
         Matcher m = NUMBER.matcher(line);
@@ -96,12 +139,19 @@ public final class Mutants {
             if (line.trim().startsWith("case")) continue;
             long v = Long.parseLong(m.group());
             for (long w : new long[] {v + 1, v - 1}) {
-                if (w >= 0) all.add(new Mutant(i, line, line.substring(0, m.start()) + w + line.substring(m.end())));
+                if (w >= 0) place(all, i, line.substring(0, m.start()) + w + line.substring(m.end()));
             }
         }
         if (line.trim().matches("[\\w.\\[\\]()]+(\\(.*\\)|\\+\\+|--|.* [-+|&]?= .*);") && !line.contains("return")) {
-            all.add(new Mutant(i, line, ";"));
+            place(all, i, ";");
         }
+    }
+
+    private static void place(List<Mutant> all, int i, String by) {
+        String[] changed = lines.clone();
+        changed[i] = by;
+        String told = "line " + (i + 1) + ": " + lines[i].trim() + " -> " + by.trim();
+        all.add(new Mutant("", told, String.join("\n", changed)));
     }
 
     private static List<Seen> tryAll(List<Mutant> all, PrintStream out) throws Exception {
@@ -118,10 +168,8 @@ public final class Mutants {
     }
 
     private static Seen tryOne(Mutant m) throws Exception {
-        String[] changed = lines.clone();
-        changed[m.line] = m.after;
-        Map<String, byte[]> broken = compile(Map.of("GangMatrix", String.join("\n", changed)), null);
-        if (broken == null) return new Seen(m, Set.of(), "does not compile");
+        Map<String, byte[]> broken = compile(Map.of("GangMatrix", m.source));
+        if (broken == null) return new Seen(m, Set.of(), false);
         Map<String, byte[]> all = new HashMap<>(testClasses);
         all.putAll(broken);
         ClassLoader loader = new ClassLoader(ClassLoader.getPlatformClassLoader()) {
@@ -132,61 +180,68 @@ public final class Mutants {
                 return defineClass(name, b, 0, b.length);
             }
         };
-        Set<String> by = new TreeSet<>();
         ExecutorService one = Executors.newSingleThreadExecutor(r -> {
             Thread t = new Thread(r);
             t.setDaemon(true);
             return t;
         });
-        String how = "";
         for (String test : TESTS) {
-            Future<?> run = one.submit(() -> {
-                var method = loader.loadClass(test).getDeclaredMethod("runAll");
-                method.setAccessible(true);
-                return method.invoke(null);
-            });
+            Future<?> run = one.submit(() -> call(loader, test, "runAll"));
             try {
                 run.get(SECONDS, TimeUnit.SECONDS);
-            } catch (Exception e) {
-                how = "throws or does not end";
-                by.add("(" + how + ")");
+            } catch (TimeoutException e) {
+                call(loader, "Edges", "threw");
                 break;
+            } catch (ExecutionException e) {
+                call(loader, "Edges", "threw");
             }
         }
         one.shutdownNow();
-        var names = loader.loadClass("Edges").getDeclaredMethod("broken");
-        names.setAccessible(true);
-        for (Object s : new ArrayList<>((Set<?>) names.invoke(null))) by.add((String) s);
-        return new Seen(m, by, how);
+        Set<String> by = new TreeSet<>();
+        for (Object s : new ArrayList<>((Set<?>) call(loader, "Edges", "broken"))) by.add((String) s);
+        if (m.source.equals(whole)) {
+            for (Object s : (Set<?>) call(loader, "Edges", "sentences")) sentences.add((String) s);
+        }
+        return new Seen(m, by, true);
     }
 
-    private static void report(List<Seen> seen, PrintStream out) {
-        Map<String, Seen> sharpest = new TreeMap<>();
+    private static Object call(ClassLoader loader, String name, String method) throws Exception {
+        var m = loader.loadClass(name).getDeclaredMethod(method);
+        m.setAccessible(true);
+        return m.invoke(null);
+    }
+
+    private static void reportBreaks(List<Seen> seen, PrintStream out) {
+        int missed = 0;
+        Set<String> without = new TreeSet<>(sentences);
+        for (Seen s : seen) {
+            String named = s.mutant.sentence;
+            for (String t : sentences) if (!sentences.contains(named) && t.startsWith(named)) named = t;
+            without.remove(named);
+            if (s.by.contains(named)) continue;
+            missed++;
+            out.println((s.compiled ? "its test does not see: \"" : "does not compile: \"") + s.mutant.sentence + "\" broken by "
+                + s.mutant.told + "; seen by " + s.by);
+        }
+        for (String t : without) out.println("no break for \"" + t + "\"");
+        out.println(seen.size() + " breaks of sentences, " + missed + " not seen by the sentence's test");
+    }
+
+    private static void reportPlaces(List<Seen> seen, PrintStream out) {
         int unseen = 0, compiled = 0;
         for (Seen s : seen) {
-            if (s.how.equals("does not compile")) continue;
+            if (!s.compiled) continue;
             compiled++;
             if (s.by.isEmpty()) {
                 unseen++;
-                out.println("not seen, line " + (s.mutant.line + 1) + ": " + s.mutant.before.trim()
-                    + "\n                -> " + s.mutant.after.trim());
-            }
-            for (String sentence : s.by) {
-                Seen best = sharpest.get(sentence);
-                if (best == null || s.by.size() < best.by.size()) sharpest.put(sentence, s);
+                out.println("not seen, " + s.mutant.told);
             }
         }
-        out.println();
-        for (Map.Entry<String, Seen> e : sharpest.entrySet()) {
-            Seen s = e.getValue();
-            out.println(s.by.size() + " see it: \"" + e.getKey() + "\" by line " + (s.mutant.line + 1) + ": "
-                + s.mutant.before.trim() + " -> " + s.mutant.after.trim());
-        }
-        out.println(compiled + " breaks, " + unseen + " not seen, " + sharpest.size() + " sentences see one");
+        out.println(compiled + " breaks by places, " + unseen + " not seen");
     }
 
     /** Classes by their names, or null if the sources do not compile. */
-    private static Map<String, byte[]> compile(Map<String, String> sources, String none) throws Exception {
+    private static Map<String, byte[]> compile(Map<String, String> sources) throws Exception {
         JavaCompiler javac = ToolProvider.getSystemJavaCompiler();
         StandardJavaFileManager standard = javac.getStandardFileManager(d -> { }, null, null);
         Map<String, ByteArrayOutputStream> made = new HashMap<>();
@@ -212,15 +267,11 @@ public final class Mutants {
                 }
             });
         }
-        boolean done = javac.getTask(OutputStreamless.WRITER, files, d -> { }, List.of("-nowarn"), null, units).call();
+        boolean done = javac.getTask(Writer.nullWriter(), files, d -> { }, List.of("-nowarn"), null, units).call();
         standard.close();
         if (!done) return null;
         Map<String, byte[]> classes = new HashMap<>();
         for (Map.Entry<String, ByteArrayOutputStream> e : made.entrySet()) classes.put(e.getKey(), e.getValue().toByteArray());
         return classes;
-    }
-
-    private static final class OutputStreamless {
-        static final java.io.Writer WRITER = java.io.Writer.nullWriter();
     }
 }
