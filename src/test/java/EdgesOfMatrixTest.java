@@ -28,6 +28,9 @@ public final class EdgesOfMatrixTest {
         sixtyArrivals();
         sixtyTogether();
         endedOnesCount();
+        sixtyAreAsked();
+        sixtyAreMoved();
+        sixtiethIsMoved();
         sizes();
         works();
         afters();
@@ -414,6 +417,96 @@ public final class EdgesOfMatrixTest {
         Edges.due("none is left", x.look(13), 0);
         Edges.due("the numbers are used up", x.job(1, 1, 0, Edges.NONE), Edges.NONE);
         Edges.due("the numbers are used up", x.later(50, 1, 1, 0), Edges.NONE);
+    }
+
+    /** All sixty came: 0 to 31 are in the cells of eight slots, the others wait. */
+    private static GangMatrix full() {
+        GangMatrix x = Edges.with(4);
+        x.set(Edges.MOST, 8);
+        x.set(Edges.STOP, 0);
+        for (int j = 0; j < 60; j++) Edges.job(x, j, 1, 9, j % 6);
+        return x;
+    }
+
+    private static void sixtyAreAsked() {
+        Edges.sentence("JOBS .. 60 at most: each question is answered with as many");
+        GangMatrix x = full();
+        int[] looked = {0, 60, 0, 8, 28, 0, 32, 0, 0, 8, 0, 0, 92};
+        for (int k = 0; k < looked.length; k++) Edges.due("look(" + (10 + k) + ")", x.look(10 + k), looked[k]);
+        Edges.due("cell", x.cell(7, 3), 31);
+        Edges.due("JOBS of a SLOT", x.slot(7, 0), 4);
+        Edges.due("WEIGHT", x.slot(7, 1), 4);
+        Edges.due("CELLS", x.slot(7, 5), 4);
+        Edges.due("left of a USER", x.user(5, 2), 10);
+        Edges.due("none had to wait", x.user(5, 4), 0);
+        Edges.due("the last of THE QUEUE", x.queue(27), 59);
+        Edges.due("none is lent to", x.lends(0, Edges.NONE), 0);
+        int[] weighed = {0, -1, -36, 0, 0};
+        for (int k = 0; k < 5; k++) Edges.due("weigh(31, " + k + ")", x.weigh(31, k), weighed[k]);
+        int[] packed = {8, 0, 0, 0};
+        for (int k = 0; k < 4; k++) Edges.due("pack(" + k + ")", x.pack(k), packed[k]);
+        int[] urged = {0, 0, 1, 0};
+        for (int k = 0; k < 4; k++) Edges.due("urged(59, " + k + ")", x.urged(59, k), urged[k]);
+        Edges.due("thin", x.thin(1), 8);
+        Edges.due("no place", x.where(1, 0), Edges.NONE);
+        Edges.due("none is DONE by 64", x.would(64, 0), 0);
+        Edges.due("four by 65", x.would(65, 0), 4);
+        Edges.due("four by 65", x.when(3), 65);
+        Edges.due("cell of none", x.kill(31) + x.kill(32), 2);
+        Edges.due("the next of THE QUEUE", x.cell(7, 3), 33);
+    }
+
+    private static void sixtyAreMoved() {
+        Edges.sentence("JOBS .. 60 at most: each change is done with as many");
+        GangMatrix x = full();
+        Edges.no("move", x.move(31, 0));
+        Edges.no("migrate", x.migrate(31));
+        Edges.no("relay", x.relay());
+        Edges.due("unify", x.unify(), 0);
+        Edges.due("repack", x.repack(), 8);
+        Edges.yes("urge", x.urge(59));
+        Edges.at(x, 59, 0, 0);
+        Edges.due("the last of THE QUEUE", x.queue(27), 0);
+        Edges.yes("down", x.down(3));
+        Edges.due("eight are put back", x.look(14), 36);
+        Edges.due("column 3 is nobody's", x.cell(0, 3), Edges.NONE);
+        Edges.due("the last of THE QUEUE", x.queue(35), 31);
+        Edges.yes("up", x.up(3));
+        Edges.due("the first of it are PLACED", x.look(14), 28);
+        for (int j = 4; j < 32; j += 4) Edges.due("kill", x.kill(j), 1);
+        Edges.due("killed", x.kill(1) + x.kill(2), 2);
+        Edges.yes("taken", x.image(true));
+        Edges.due("done", x.quantum(100) + x.quantum(100) + x.quantum(100), 51);
+        Edges.due("DONE and KILLED", x.look(17) + x.look(18), 60);
+        Edges.yes("gone back to", x.image(false));
+        Edges.due("DONE and KILLED", x.look(17) + x.look(18), 9);
+    }
+
+    private static void sixtiethIsMoved() {
+        Edges.sentence("JOBS .. 60 at most: the last of as many is moved");
+        GangMatrix x = Edges.with(4);
+        x.set(Edges.STOP, 0);
+        for (int j = 0; j < 60; j++) {
+            Edges.job(x, j, 2, 9, 0);
+            if (j < 56) Edges.due("killed", x.kill(j), 1);
+        }
+        Edges.due("killed", x.kill(57) + x.kill(58), 2);
+        Edges.due("unify", x.unify(), 1);
+        Edges.at(x, 59, 0, 2);
+        Edges.yes("move", x.move(59, 0));
+        Edges.at(x, 59, 1, 0);
+        Edges.due("thin by one", x.thin(1), 1);
+        Edges.due("thin by two", x.thin(2), 1);
+        Edges.yes("migrate", x.migrate(59));
+        Edges.at(x, 59, 0, 2);
+        Edges.yes("move", x.move(59, 0));
+        Edges.yes("relay", x.relay());
+        Edges.at(x, 59, 0, 2);
+        Edges.yes("down", x.down(3));
+        Edges.at(x, 59, 1, 0);
+        x.quantum(18);
+        Edges.due("END", x.of(56, Edges.END), 17);
+        Edges.due("END", x.of(59, Edges.END), 18);
     }
 
     private static void sizes() {
